@@ -498,7 +498,7 @@ public final class GhostCoast {
     public int book(int day, int what) {
         if (!isIn(what, BOOK_NUMBERS) || !isIn(day, DAYS)) return found(BEYOND);
         if (!now.isClosed(day)) return found(NONE);
-        return now.book[day][what];
+        return now.book[BOOK_NUMBERS * day + what];
     }
 
     public int check(int day, int s) {
@@ -508,7 +508,7 @@ public final class GhostCoast {
         if (sheets.length[s] != BOOK_NUMBERS) return found(SIZE);
         for (int i = 0; i < BOOK_NUMBERS; i++) {
             int v = sheets.numbers[s][i];
-            if (v != CLOUDED && v != now.book[day][i]) return i;
+            if (v != CLOUDED && v != now.book[BOOK_NUMBERS * day + i]) return i;
         }
         return BOOK_NUMBERS;
     }
@@ -723,7 +723,6 @@ public final class GhostCoast {
             this.cell[size] = cell;
             this.a[size] = a;
             this.b[size] = b;
-            // The row may still bear what a show had that an undo took back.
             stands[size] = false;
             since[size] = 0;
             isBroken[size] = false;
@@ -1283,7 +1282,8 @@ public final class GhostCoast {
         final Eyes eyes = new Eyes();
         final Desk desk = new Desk();
         final Texts texts = new Texts();
-        final int[][] book = new int[DAYS][BOOK_NUMBERS];
+        /** Six numbers a day, one day behind the other. */
+        final int[] book = new int[DAYS * BOOK_NUMBERS];
         /** The pairs that collectPairs() found latest. */
         final int[] pairs = new int[PAIRS];
         private final Scales scales = new Scales();
@@ -1295,9 +1295,7 @@ public final class GhostCoast {
             eyes.become(other.eyes);
             desk.become(other.desk);
             texts.become(other.texts);
-            for (int d = 0; d < DAYS; d++) {
-                System.arraycopy(other.book[d], 0, book[d], 0, BOOK_NUMBERS);
-            }
+            System.arraycopy(other.book, 0, book, 0, DAYS * BOOK_NUMBERS);
         }
 
         /** The clause of a show, in the order in which FACT_WORDS tells the facts, or NO. */
@@ -1510,12 +1508,13 @@ public final class GhostCoast {
             coast.coin = shows.pay(coast.coin);
             int day = coast.hour / DAY_HOURS;
             if (!isIn(day, DAYS)) return;
-            book[day][0] = coast.pool;
-            book[day][1] = shows.handsOfAll();
-            book[day][2] = coast.coin;
-            book[day][3] = shows.standing();
-            book[day][4] = desk.knownBy(coast.hour);
-            book[day][5] = scalesAt(coast.hour).heaviest();
+            int row = BOOK_NUMBERS * day;
+            book[row] = coast.pool;
+            book[row + 1] = shows.handsOfAll();
+            book[row + 2] = coast.coin;
+            book[row + 3] = shows.standing();
+            book[row + 4] = desk.knownBy(coast.hour);
+            book[row + 5] = scalesAt(coast.hour).heaviest();
         }
     }
 }

@@ -82,7 +82,7 @@ public final class RandomRunsTest {
 
     public static void main(String[] args) {
         long first = args.length > 0 ? Long.parseLong(args[0]) : 1;
-        long runs = args.length > 1 ? Long.parseLong(args[1]) : 400;
+        long runs = args.length > 1 ? Long.parseLong(args[1]) : 1500;
         for (long seed = first; seed < first + runs && wrong < 5; seed++) new RandomRunsTest(seed).run();
         if (args.length > 2) {
             for (int i = 0; i < seen.length; i++) System.out.println(Calls.NAMES[i] + " " + Arrays.toString(seen[i]));

@@ -1,0 +1,375 @@
+/** Promises 39 to 44: agree, slip, carry, plan, judge, last. */
+public final class PlansTest {
+    private static final Due due = new Due();
+
+    public static void main(String[] args) {
+        agreeByKinds();
+        agreeInOrder();
+        slip();
+        slipIsOfCredit4();
+        slipTakesTheOldestAway();
+        carry();
+        plan();
+        planWithin();
+        fewestThoughGreaterAsBits();
+        planFindings();
+        judge();
+        judgeTakesTheOldestAway();
+        last();
+        lastFades();
+        lastOfPartsOfADay();
+        lastOfLateOnes();
+        due.end();
+    }
+
+    private static void pair(GhostCoast x, int i, int lesser, int greater, int eye) {
+        due.is("lesser of pair " + i, x.agree(i, 0), lesser);
+        due.is("greater of pair " + i, x.agree(i, 1), greater);
+        due.is("eye of pair " + i, x.agree(i, 2), eye);
+    }
+
+    private static void agreeByKinds() {
+        GhostCoast x = new GhostCoast();
+        Due.shown(x, 0, 101, 0, 0);
+        Due.shown(x, 2, 201, 0, 4);
+        due.is("a show and a camp in a cell", x.count(11), 1);
+        pair(x, 0, 0, 1, 0);
+        Due.shown(x, 1, 202, 0, 1);
+        Due.shown(x, 1, 101, 0, 1);
+        due.is("in other cells, of like stories", x.count(11), 2);
+        pair(x, 1, 1, 3, 0);
+        Due.shown(x, 3, 101, 306, 2);
+        Due.shown(x, 3, 207, 607, 2);
+        Due.shown(x, 3, 308, 708, 2);
+        Due.shown(x, 3, 10, 2, 2);
+        due.is("nets by times", x.count(11), 4);
+        pair(x, 2, 4, 5, 1);
+        pair(x, 3, 5, 6, 1);
+        netsTheOtherWayRound();
+        Due.shown(x, 4, 101, 0, 0);
+        Due.shown(x, 4, 209, 0, 0);
+        Due.shown(x, 5, 301, 0, 0);
+        Due.shown(x, 5, 201, 0, 0);
+        due.is("voices", x.count(11), 5);
+        pair(x, 4, 8, 9, 2);
+        x.stand(1, false);
+        due.is("one that isn't shown", x.count(11), 3);
+        pair(x, 0, 4, 5, 1);
+        due.is("pair -1", x.agree(-1, 0), Due.BEYOND);
+        due.is("pair 3", x.agree(3, 0), Due.BEYOND);
+        due.is("what -1", x.agree(0, -1), Due.BEYOND);
+        due.is("what 3", x.agree(0, 3), Due.BEYOND);
+        due.is("most", x.agree(Integer.MAX_VALUE, 0), Due.BEYOND);
+    }
+
+    private static void netsTheOtherWayRound() {
+        GhostCoast x = new GhostCoast();
+        Due.shown(x, 3, 100, 607, 2);
+        Due.shown(x, 3, 200, 306, 2);
+        Due.shown(x, 3, 300, 205, 2);
+        due.is("they meet at one time alone", x.count(11), 2);
+        pair(x, 0, 0, 1, 1);
+        pair(x, 1, 1, 2, 1);
+    }
+
+    private static void agreeInOrder() {
+        GhostCoast x = new GhostCoast();
+        for (int i = 0; i < 20; i++) Due.shown(x, i < 4 ? 0 : 4, 100 * (i % 4), 0, 0);
+        pair(x, 0, 0, 1, 0);
+        pair(x, 1, 0, 2, 0);
+        pair(x, 2, 0, 3, 0);
+        pair(x, 3, 1, 2, 0);
+        pair(x, 5, 2, 3, 0);
+        pair(x, 6, 4, 5, 2);
+        due.is("all pairs", x.count(11), 6 + 16 * 12 / 2);
+        pair(x, 6 + 95, 18, 19, 2);
+    }
+
+    private static void slip() {
+        GhostCoast x = new GhostCoast();
+        x.show(4, 0, 0);
+        x.show(4, 100, 0);
+        due.is("against 0, of like ones the least", x.slip(0), 1);
+        due.is("against 1", x.slip(1), 0);
+        x.prisoner(1, true);
+        due.is("5 against 4", x.slip(1), 0);
+        x.prisoner(1, true);
+        due.is("5 against 16", x.slip(1), 1);
+        due.is("slip -1", x.slip(-1), Due.BEYOND);
+        due.is("slip 2", x.slip(2), Due.BEYOND);
+        due.is("it changes nothing", x.count(3), 2);
+        due.is("nor weights", x.weight(1), 16);
+    }
+
+    /** A voice of TRUST 4 weighs 5, as much as what is told against its story. */
+    private static void slipIsOfCredit4() {
+        for (int story = 0; story < 2; story++) {
+            GhostCoast x = new GhostCoast();
+            Due.shown(x, 4, 100 * story, 401, 0);
+            x.tell(0);
+            due.is("5 against 5", x.slip(0), 0);
+        }
+    }
+
+    private static void slipTakesTheOldestAway() {
+        GhostCoast x = new GhostCoast();
+        x.show(4, 200, 0);
+        Due.shown(x, 4, 100, 109, 0);
+        x.prisoner(0, true);
+        for (int i = 0; i < 2; i++) x.tell(1);
+        for (int i = 0; i < 9; i++) x.prisoner(3, i % 2 == 0);
+        // 0: 4 * 4^4, 1: 2 * 2 * 4^4, 2: 4^4, 3: 4^5: of 0, 1 and 3 alike 0 is the least.
+        due.is("of like ones", x.likeliest(0), 0);
+        due.is("without the oldest, 1 and 3 are alike", x.slip(0), 1);
+        due.is("against 1", x.slip(1), 3);
+    }
+
+    private static void carry() {
+        GhostCoast x = new GhostCoast();
+        Due.shown(x, 0, 101, 0, 0);
+        Due.shown(x, 4, 102, 0, 0);
+        Due.shown(x, 4, 202, 0, 0);
+        Due.shown(x, 1, 103, 0, 1);
+        x.show(0, 104, 0);
+        due.is("carry", x.carry(0), 2 + 8);
+        due.is("carry of one that isn't shown", x.carry(4), 1 + 2 + 8);
+        due.is("carry of another story", x.carry(2), 0);
+        x.hands(3, 0);
+        due.is("carry without what isn't shown", x.carry(0), 2);
+        due.is("carry -1", x.carry(-1), Due.BEYOND);
+        due.is("carry 5", x.carry(5), Due.BEYOND);
+    }
+
+    private static void plan() {
+        GhostCoast x = new GhostCoast();
+        x.unit(0, 1);
+        x.show(1, 100, 0);
+        x.show(4, 100, 400);
+        x.show(3, 100, 0);
+        x.show(5, 200, 400);
+        x.show(6, 100, 0);
+        due.is("all of the story, not those of credit 0", x.plan(1, 31, 99, 99), 7);
+        due.is("of a part of the set", x.plan(1, 30, 99, 99), 6);
+        due.is("another story", x.plan(2, 31, 99, 99), 8);
+        due.is("a story that none tells: none is best", x.plan(0, 31, 99, 99), 0);
+        due.is("of no show", x.plan(1, 0, 99, 99), 0);
+        due.is("the number is what it was", x.count(3), 0);
+        GhostCoast y = new GhostCoast();
+        y.show(0, 100, 0);
+        y.show(2, 100, 0);
+        due.is("like ones by bits", y.plan(1, 3, 99, 4), 1);
+        due.is("both", y.plan(1, 3, 4, 6), 3);
+    }
+
+    private static void planWithin() {
+        GhostCoast x = new GhostCoast();
+        x.show(2, 100, 0);
+        x.show(3, 100, 4);
+        x.show(4, 100, 100);
+        // Needs 4, 2, 0; prices 5, 5, 1; credits 2, 1, 1.
+        due.is("hands 6, coin 11", x.plan(1, 7, 6, 11), 7);
+        due.is("hands 5", x.plan(1, 7, 5, 11), 5);
+        due.is("hands 3", x.plan(1, 7, 3, 11), 6);
+        due.is("hands 1", x.plan(1, 7, 1, 11), 4);
+        due.is("coin 10: 6 by two or by two others: 3 * 2 is more", x.plan(1, 7, 6, 10), 3);
+        due.is("coin 9", x.plan(1, 7, 6, 9), 5);
+        due.is("coin 5: one show of credit 2", x.plan(1, 7, 6, 5), 1);
+        due.is("coin 1", x.plan(1, 7, 6, 1), 4);
+        due.is("coin 0", x.plan(1, 7, 6, 0), 0);
+        fewestThenLeast();
+    }
+
+    /** A credit of 3 is as good as two of credit 1: the fewer shows, though greater as bits. */
+    private static void fewestThenLeast() {
+        GhostCoast x = new GhostCoast();
+        x.show(3, 100, 1);
+        x.show(3, 100, 1);
+        x.show(5, 100, 300);
+        x.show(5, 100, 300);
+        due.is("two nets", x.plan(1, 3, 4, 4), 3);
+        due.is("all but what is needed", x.plan(1, 7, 4, 4), 7);
+        due.is("a paper alone, as hands are short", x.plan(1, 7, 1, 4), 4);
+        x.unit(0, 1);
+        x.show(6, 100, 0);
+        due.is("a quiet adds nothing", x.plan(1, 31, 0, 0), 12);
+        GhostCoast y = new GhostCoast();
+        y.show(4, 100, 100);
+        y.show(4, 100, 100);
+        y.show(3, 100, 1);
+        y.show(5, 100, 300);
+        due.is("coin for two voices or one net", y.plan(1, 7, 9, 2), 3);
+        due.is("two voices are as one paper with no coin", y.plan(1, 11, 9, 0), 8);
+        x = new GhostCoast();
+        x.show(4, 100, 100);
+        x.show(4, 100, 100);
+        x.show(1, 100, 0);
+        x.show(4, 100, 300);
+        x.show(1, 100, 0);
+        due.is("coin 2: 2 * 4 by voices 0 and 3, of like ones the least", x.plan(1, 31, 9, 2), 9);
+        due.is("coin 2 without voice 3: two voices are 4", x.plan(1, 23, 9, 2), 3);
+        due.is("coin 1: a credit of 3", x.plan(1, 31, 9, 1), 8);
+    }
+
+    /**
+     * Shows 3 and 4 leave 16 of story 0, and 300000 of story 1: 300000 of 300018. Shows 0, 1 and 3 drive
+     * one more report of story 0 out: 100000 of 100006. That is as likely; the fewer are the greater as bits.
+     */
+    private static void fewestThoughGreaterAsBits() {
+        GhostCoast x = new GhostCoast();
+        x.show(4, 100, 0);
+        x.show(4, 100, 0);
+        x.show(3, 200, 2);
+        x.show(5, 100, 400);
+        x.show(2, 100, 0);
+        for (int trust : new int[] {4, 1, 0}) Due.shown(x, 4, 100, 100 * trust + 9, 0);
+        x.prisoner(1, true);
+        x.prisoner(0, true);
+        x.prisoner(0, true);
+        x.tell(5);
+        x.tell(6);
+        x.prisoner(1, true);
+        x.tell(5);
+        x.tell(7);
+        x.prisoner(1, true);
+        x.tell(5);
+        x.prisoner(0, true);
+        x.tell(5);
+        due.is("above by 3 and 4", x.judge(1, 24, false), 50000);
+        due.is("below by 3 and 4", x.judge(1, 24, true), 50003);
+        due.is("above by 0, 1 and 3", x.judge(1, 11, false), 50000);
+        due.is("below by 0, 1 and 3", x.judge(1, 11, true), 50003);
+        due.is("the fewer", x.plan(1, 31, 7, 5), 24);
+    }
+
+    private static void planFindings() {
+        GhostCoast x = new GhostCoast();
+        for (int i = 0; i < 10; i++) x.show(0, 100, 0);
+        due.is("story -1", x.plan(-1, 0, 0, 0), Due.BEYOND);
+        due.is("story 4", x.plan(4, 0, 0, 0), Due.BEYOND);
+        due.is("set -1", x.plan(0, -1, 0, 0), Due.BEYOND);
+        due.is("set of others", x.plan(0, 1 << 10, 0, 0), Due.BEYOND);
+        due.is("set of a far one", x.plan(0, 1 << 30, 0, 0), Due.BEYOND);
+        due.is("hands -1", x.plan(0, 0, -1, 0), Due.BEYOND);
+        due.is("coin -1", x.plan(0, 0, 0, -1), Due.BEYOND);
+        due.is("ten", x.plan(1, 1023, 0, 0), Due.SIZE);
+        due.is("ten, and coin -1", x.plan(1, 1023, 0, -1), Due.BEYOND);
+        due.is("nine", x.plan(1, 1022, 0, 99), 1022);
+        due.is("nine, with the most", x.plan(1, 511, Integer.MAX_VALUE, Integer.MAX_VALUE), 511);
+        due.is("judge story -1", x.judge(-1, 0, true), Due.BEYOND);
+        due.is("judge story 4", x.judge(4, 0, true), Due.BEYOND);
+        due.is("judge set -1", x.judge(0, -1, true), Due.BEYOND);
+        due.is("judge set of others", x.judge(0, 1024, true), Due.BEYOND);
+        due.is("judge ten", x.judge(0, 1023, true), Due.SIZE);
+        due.is("judge nine above", x.judge(1, 511, false), 6561);
+        due.is("judge nine below", x.judge(1, 511, true), 6562);
+        due.is("last of nine", x.last(1, 511), 1);
+        due.is("last story -1", x.last(-1, 0), Due.BEYOND);
+        due.is("last story 4", x.last(4, 0), Due.BEYOND);
+        due.is("last set -1", x.last(0, -1), Due.BEYOND);
+        due.is("last set of others", x.last(0, 1024), Due.BEYOND);
+        due.is("last ten", x.last(0, 1023), Due.SIZE);
+    }
+
+    private static void judge() {
+        GhostCoast x = new GhostCoast();
+        x.unit(0, 1);
+        int[] numbers = {0, 0, 0, 0, 400, 300, 0};
+        // Credits 2, 2, 2, 1, 4, 3, 0: 3 of 6, 2 of 5, 5 of 8, 4 of 7, 1 of 4.
+        int[] above = {1, 1, 1, 2, 5, 4, 1};
+        int[] below = {2, 2, 2, 5, 8, 7, 4};
+        for (int kind = 0; kind < 7; kind++) x.show(kind, 200, numbers[kind]);
+        for (int kind = 0; kind < 7; kind++) {
+            due.is("judge kind " + kind, x.judge(2, 1 << kind, false), above[kind]);
+            due.is("judge kind " + kind + " below", x.judge(2, 1 << kind, true), below[kind]);
+        }
+        x.prisoner(1, true);
+        due.is("with what is there", x.judge(2, 16 + 32, false), 10);
+        due.is("with what is there, below", x.judge(2, 16 + 32, true), 13);
+    }
+
+    private static void judgeTakesTheOldestAway() {
+        GhostCoast x = new GhostCoast();
+        x.unit(0, 1);
+        x.show(6, 300, 0);
+        x.prisoner(0, true);
+        for (int i = 0; i < 11; i++) x.prisoner(1, i % 2 == 0);
+        // 6 reports for story 1 and 5 against it, of credit 3: 4^6 for 1, 4^5 for each other, and 4 more
+        // for story 0 by the oldest, which the quiet one takes away.
+        due.is("twelve", x.judge(0, 0, false), 2);
+        due.is("twelve below", x.judge(0, 0, true), 5);
+        due.is("a quiet one of credit 0", x.judge(0, 1, false), 1);
+        due.is("a quiet one of credit 0, below", x.judge(0, 1, true), 7);
+        due.is("so that a plan may want it", x.plan(3, 1, 0, 0), 1);
+    }
+
+    private static void last() {
+        GhostCoast x = new GhostCoast();
+        Due.shown(x, 4, 200, 101, 0);
+        x.prisoner(1, true);
+        due.is("last of none: until it fades", x.last(1, 0), 10);
+        due.is("2 to the third is above 4", x.last(1, 1), 3);
+        due.is("it is no other on the first day", x.last(2, 1), 1);
+        due.is("one that is not the likeliest", x.last(0, 0), 1);
+        Due.shown(x, 4, 300, 409, 0);
+        due.is("those that aren't in the set give none", x.last(1, 1), 3);
+        due.is("nor as the first", x.last(1, 2), 1);
+        x.stand(0, false);
+        due.is("those that aren't shown give none", x.last(1, 1), 10);
+        x.fade(30);
+        due.is("none up to 30", x.last(1, 0), Due.NONE);
+        x.fade(29);
+        due.is("the 30th", x.last(1, 0), 30);
+        due.is("story 0 with nothing else stays", new GhostCoast().last(0, 0), Due.NONE);
+    }
+
+    private static void lastFades() {
+        GhostCoast x = new GhostCoast();
+        x.fade(2);
+        Due.shown(x, 0, 0, 0, 0);
+        Due.shown(x, 0, 0, 0, 0);
+        x.prisoner(1, true);
+        x.prisoner(1, true);
+        x.prisoner(1, true);
+        // On day 1 9 of story 0 against 64, on day 2 81: the greater, but with story 2 to be told, too, it isn't.
+        due.is("story 1 until 81 is above 64", x.last(1, 3), 2);
+        Due.shown(x, 4, 200, 409, 0);
+        x.tell(2);
+        // Of story 2 at d: 5^(d + 1) on days 1 and 2, 5^3 from then on; of story 0: 9, 81, 729, 729, ..
+        due.is("story 2 is told on, too", x.last(2, 7), 1);
+        x.strike(0);
+        x.strike(1);
+        due.is("story 2 until day 3, when told days fade", x.last(2, 7), 3);
+        due.is("story 1 is not", x.last(1, 7), 1);
+    }
+
+    /** Of the latest twelve, by days and then by number, what is left of a day are its last shows. */
+    private static void lastOfPartsOfADay() {
+        GhostCoast x = new GhostCoast();
+        for (int i = 0; i < 6; i++) x.unit(0, 1);
+        Due.shown(x, 4, 200, 400, 0);
+        for (int i = 0; i < 6; i++) Due.shown(x, 6, 0, 100 * i, 0);
+        for (int i = 0; i < 2; i++) Due.shown(x, 4, 300, 100, 0);
+        // Day 1: 5 of story 2, 4 of story 3; day 2: 5 and 16, by the three last shows of day 1.
+        due.is("nine shows", x.last(2, 511), 2);
+        x.fade(1);
+        due.is("five shows of two days are ten reports", x.last(2, 1 + 2 + 4 + 128 + 256), Due.NONE);
+    }
+
+    /** What is known late counts from then on, and the latest twelve of told days drive it out. */
+    private static void lastOfLateOnes() {
+        GhostCoast x = new GhostCoast();
+        Due.shown(x, 0, 305, 0, 0);
+        x.flight(0, 50, 48);
+        x.tick(1);
+        x.stand(0, false);
+        due.is("not known on the first day", x.last(0, 0), 2);
+        due.is("story 3 isn't yet on the first day", x.last(3, 0), 1);
+        GhostCoast y = new GhostCoast();
+        y.fade(30);
+        for (int i = 0; i < 6; i++) y.unit(0, 1);
+        for (int i = 0; i < 6; i++) Due.shown(y, 6, 0, 100 * i, 0);
+        y.prisoner(2, true);
+        due.is("six quiet ones a day drive it out by the second", y.last(2, 63), 2);
+        due.is("five by the third", y.last(2, 31), 3);
+    }
+}
