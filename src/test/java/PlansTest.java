@@ -83,6 +83,11 @@ public final class PlansTest {
         pair(x, 6, 4, 5, 2);
         due.is("all pairs", x.count(11), 6 + 16 * 12 / 2);
         pair(x, 6 + 95, 18, 19, 2);
+        GhostCoast y = new GhostCoast();
+        for (int i = 0; i < 20; i++) Due.shown(y, 0, 100 * (i % 4), 0, 0);
+        due.is("the most pairs", y.count(11), 150);
+        pair(y, 149, 18, 19, 0);
+        due.is("behind the most", y.agree(150, 0), Due.BEYOND);
     }
 
     private static void slip() {

@@ -44,6 +44,9 @@ public final class ShowsTest {
         int[][] wrong = {{0, 1000}, {0, 10}, {1, 1000}, {1, 910}, {2, 1009}, {2, 10}, {3, 2400}, {3, 24}, {3, 2322},
             {3, 100}, {4, 500}, {4, 10}, {5, 500}, {6, 100}, {6, 10}, {0, Integer.MAX_VALUE}};
         for (int[] w : wrong) due.is("kind " + w[0] + " of " + w[1], x.show(w[0], 0, w[1]), Due.BEYOND);
+        while (x.count(1) < 12) x.unit(0, 1);
+        due.is("quiet of the last unit", x.show(6, 0, 1109), right.length);
+        due.is("quiet of a unit behind it", x.show(6, 0, 1200), Due.BEYOND);
     }
 
     private static void as() {
