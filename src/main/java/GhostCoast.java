@@ -1514,7 +1514,8 @@ public final class GhostCoast {
             book[row + 2] = coast.coin;
             book[row + 3] = shows.standing();
             book[row + 4] = desk.knownBy(coast.hour);
-            book[row + 5] = scalesAt(coast.hour).heaviest();
+            scales.load(desk, shows, coast.hour);
+            book[row + 5] = scales.heaviest();
         }
     }
 }

@@ -4,11 +4,14 @@ public final class CoastTest {
 
     public static void main(String[] args) {
         newObject();
+        firstWeather();
         cell();
         road();
         unit();
         moveAndWhere();
+        longestAndShortestRoad();
         quietHolds();
+        othersHoldNot();
         still();
         stillAtItsEdges();
         weather();
@@ -36,7 +39,22 @@ public final class CoastTest {
         due.is("new: known", x.known(1943), 0);
     }
 
+    /** WIND and CLOUD are 0: what BEARS 0 is whole, and a flight at a HEIGHT of 9 sees it. */
+    private static void firstWeather() {
+        GhostCoast x = new GhostCoast();
+        Due.shown(x, 1, 101, 0, 1);
+        x.flight(0, 19, 0);
+        x.tick(1);
+        due.is("new: no wind", x.of(0, 4), 0);
+        due.is("new: no cloud", x.count(3), 1);
+    }
+
     private static void cell() {
+        GhostCoast y = new GhostCoast();
+        for (int cell = 0; cell < 96; cell++) {
+            due.is("a field at first: " + cell, y.cell(cell, cell % 4), 0);
+        }
+        for (int cell = 0; cell < 96; cell++) due.is("ground of " + cell, y.cell(cell, 0), cell % 4);
         GhostCoast x = new GhostCoast();
         due.is("cell", x.cell(0, 3), 0);
         due.is("cell again", x.cell(0, 1), 3);
@@ -113,6 +131,42 @@ public final class CoastTest {
         due.is("where unit 1", x.where(1, 0), Due.BEYOND);
         due.is("where what -1", x.where(0, -1), Due.BEYOND);
         due.is("where what 4", x.where(0, 4), Due.BEYOND);
+    }
+
+    private static void longestAndShortestRoad() {
+        GhostCoast x = new GhostCoast();
+        x.unit(95, 90);
+        x.unit(0, 1);
+        x.road(0, 95, 30);
+        x.road(0, 95, 1);
+        int[] first = {95, 90, -1, 0};
+        for (int what = 0; what < 4; what++) due.is("a new unit: " + what, x.where(0, what), first[what]);
+        due.is("30 hours", x.move(0, 0), 30);
+        due.is("1 hour", x.move(1, 1), 1);
+        due.is("30 to go", x.where(0, 3), 30);
+        x.tick(1);
+        due.is("there in 1 hour", x.where(1, 0), 95);
+        due.is("no more to go", x.where(1, 3), 0);
+        due.is("29 to go", x.where(0, 3), 29);
+        x.tick(28);
+        due.is("1 to go", x.where(0, 3), 1);
+        due.is("still from where it went", x.where(0, 0), 95);
+        x.tick(1);
+        due.is("there in 30", x.where(0, 0), 0);
+        due.is("on no road", x.where(0, 2), -1);
+    }
+
+    /** A unit is held by no show of another kind, however its numbers are, nor by a quiet one that isn't shown. */
+    private static void othersHoldNot() {
+        GhostCoast x = new GhostCoast();
+        x.unit(0, 1);
+        x.road(0, 1, 2);
+        int[] hands = {0, 1, 4, 2, 0, 0};
+        for (int kind = 0; kind < 6; kind++) Due.shown(x, kind, 0, 0, hands[kind]);
+        x.show(6, 0, 0);
+        for (int show = 0; show < 6; show++) due.is("shown", x.of(show, 9), 1);
+        due.is("a quiet one that doesn't stand", x.of(6, 9), 0);
+        due.is("none holds it", x.move(0, 0), 2);
     }
 
     private static void quietHolds() {

@@ -8,11 +8,14 @@ public final class DeskTest {
         strike();
         fade();
         weight();
+        fadesAtItsEdges();
         latestTwelve();
+        greatestWeights();
         likely();
         likeliestAndCounted();
         troops();
         shift();
+        greatestRests();
         heldBeforeAny();
         due.end();
     }
@@ -81,11 +84,18 @@ public final class DeskTest {
         due.is("a voice of trust 4", x.tell(2), 3);
         due.is("strike it", x.strike(3), 4);
         due.is("half of 4", x.of(2, 12), 2);
+        x.sheet(0, 8, 3);
+        x.write(0, 2, 1);
+        x.film(0, 0);
+        due.is("strike a film of the voice", x.strike(4), 2);
+        due.is("its trust stays", x.of(2, 12), 2);
+        x.prisoner(1, false);
+        due.is("strike a prisoner", x.strike(5), 3);
         x.show(5, 0, 400);
         x.stand(3, true);
         x.tick(1);
-        due.is("strike a paper", x.strike(4), 4);
-        due.is("its credit stays", x.report(4, 7), 4);
+        due.is("strike a paper", x.strike(6), 4);
+        due.is("its credit stays", x.report(6, 7), 4);
     }
 
     private static void fade() {
@@ -105,6 +115,47 @@ public final class DeskTest {
         due.is("weight at 49", x.weight(1), 1);
         x.fade(3);
         due.is("weight when it fades later", x.weight(1), 4);
+    }
+
+    private static void fadesAtItsEdges() {
+        for (int fade : new int[] {1, 9, 30}) {
+            GhostCoast x = new GhostCoast();
+            x.fade(fade);
+            x.tick(5);
+            x.prisoner(1, true);
+            due.is("ahead of it", x.counted(4), 0);
+            due.is("then", x.counted(5), 1);
+            due.is("24 times " + fade + " behind", x.counted(5 + 24 * fade), 1);
+            due.is("24 times " + fade + " behind, likeliest", x.likeliest(5 + 24 * fade), 1);
+            due.is("one more behind", x.counted(6 + 24 * fade), 0);
+            due.is("one more behind, likeliest", x.likeliest(6 + 24 * fade), 0);
+        }
+    }
+
+    /** Twelve of TRUST 4: 5 to the 12th, times 900 more than an int holds. */
+    private static void greatestWeights() {
+        GhostCoast x = new GhostCoast();
+        for (int i = 0; i < 2; i++) Due.shown(x, 4, 200, 409, 0);
+        for (int i = 0; i < 12; i++) x.tell(i % 2);
+        due.is("the greatest weight", x.weight(2), 244140625);
+        due.is("of it, above", x.likely(2, false), 244140625);
+        due.is("of it, below", x.likely(2, true), 244140628);
+        x.troops(900);
+        due.is("all to one", x.shift(), 1);
+        due.is("held", x.held(2), 900);
+        x.tell(0);
+        due.is("no more than twelve", x.weight(2), 244140625);
+        GhostCoast y = new GhostCoast();
+        y.sheet(0, 8, 12);
+        for (int i = 0; i < 12; i++) y.write(0, i, 2);
+        for (int i = 0; i < 12; i++) y.show(0, 100, 0);
+        y.film(0, 0);
+        due.is("against it", y.weight(1), 1);
+        for (int s = 0; s < 4; s++) if (s != 1) due.is("another", y.weight(s), 531441);
+        due.is("below", y.likely(1, true), 3 * 531441 + 1);
+        y.troops(900);
+        due.is("to three", y.shift(), 3);
+        for (int s = 0; s < 4; s++) due.is("held " + s, y.held(s), s == 1 ? 0 : 300);
     }
 
     private static void weight() {
@@ -232,6 +283,32 @@ public final class DeskTest {
         due.is("held 3", x.held(3), 7);
         due.is("held -1", x.held(-1), Due.BEYOND);
         due.is("held 4", x.held(4), Due.BEYOND);
+    }
+
+    /** The greatest rest is once of each story. */
+    private static void greatestRests() {
+        for (int best = 0; best < 4; best++) {
+            GhostCoast x = new GhostCoast();
+            x.prisoner(best, true);
+            x.troops(2);
+            // 8 of 7 for it, 2 of 7 for each other: 1, and rests of 1, 2, 2, 2: one to the least of the others.
+            due.is("two troops", x.shift(), 2);
+            for (int s = 0; s < 4; s++) {
+                int want = (s == best ? 1 : 0) + (s == (best == 0 ? 1 : 0) ? 1 : 0);
+                due.is("held " + s, x.held(s), want);
+            }
+            x.troops(1);
+            // 4 of 7 is the greatest rest.
+            x.shift();
+            for (int s = 0; s < 4; s++) due.is("held of one " + s, x.held(s), s == best ? 1 : 0);
+            x.troops(3);
+            // 12 of 7, 3 of 7 thrice: 1 and a rest of 5, so 2, and one to the least of the others.
+            x.shift();
+            for (int s = 0; s < 4; s++) {
+                int want = s == best ? 2 : s == (best == 0 ? 1 : 0) ? 1 : 0;
+                due.is("held of three " + s, x.held(s), want);
+            }
+        }
     }
 
     private static void heldBeforeAny() {

@@ -12,8 +12,11 @@ public final class HoursTest {
         listenersHear();
         papersAreFound();
         unitsMarch();
+        byDaysAndTimes();
         noRoom();
+        noRoomForAny();
         paying();
+        payingToTheLast();
         book();
         check();
         known();
@@ -220,6 +223,35 @@ public final class HoursTest {
         due.is("its story", x.report(0, 1), 1);
     }
 
+    /** What is closed is told by its own DAY and TIME; what is closed with its last hour is in its book. */
+    private static void byDaysAndTimes() {
+        GhostCoast x = new GhostCoast();
+        Due.shown(x, 0, 101, 0, 0);
+        Due.shown(x, 5, 202, 223, 0);
+        Due.text(x, "bar show if day=1&hour=0", 1, 1);
+        x.flight(23, 10, 0);
+        x.flight(24, 10, 0);
+        x.flight(25, 10, 1);
+        x.tick(24);
+        due.is("day 0", x.count(3), 2);
+        EyesTest.report(due, x, 0, 0, 1, 1, 23, 23, 0, 0, 2);
+        EyesTest.report(due, x, 1, 3, 2, 1, 23, 23, 1, 0, 2);
+        due.is("known in the book", x.book(0, 4), 2);
+        due.is("a paper found in the last hour stands no more", x.book(0, 3), 1);
+        x.tick(1);
+        due.is("day 1 at 0", x.count(3), 2);
+        x.tick(1);
+        due.is("day 1 at 1", x.count(3), 3);
+        x.prisoner(3, true);
+        x.prisoner(3, true);
+        x.tick(21);
+        x.flight(47, 10, 1);
+        x.tick(1);
+        due.is("what is known from the next hour on isn't in the book", x.book(1, 4), 5);
+        due.is("the likeliest of the book", x.book(1, 5), 3);
+        due.is("of day 0: like ones", x.book(0, 5), 1);
+    }
+
     private static void noRoom() {
         GhostCoast x = new GhostCoast();
         Due.shown(x, 0, 101, 0, 0);
@@ -231,6 +263,73 @@ public final class HoursTest {
         due.is("room for the first alone", x.count(3), 90);
         due.is("the first", x.report(89, 1), 1);
         due.is("a paper whose report has no room stands no more", x.of(2, 3), 0);
+    }
+
+    /** 90 reports: what units, listeners and papers would tell doesn't come; 89: the first alone. */
+    private static void noRoomForAny() {
+        for (int there = 89; there <= 90; there++) {
+            GhostCoast x = new GhostCoast();
+            x.unit(0, 1);
+            x.unit(0, 1);
+            Due.shown(x, 3, 101, 23, 2);
+            Due.shown(x, 3, 201, 23, 2);
+            for (int i = 0; i < there; i++) x.prisoner(3, true);
+            x.flight(there == 89 ? 5 : 0, 0, 0);
+            x.listen(0);
+            x.listen(1);
+            due.is("tick", x.tick(2), 2);
+            due.is("full", x.count(3), 90);
+            due.is("the last one is of story", x.report(89, 1), there == 89 ? 1 : 3);
+            due.is("known", x.known(1943), 90);
+            due.is("one more is refused", x.prisoner(0, true), Due.FULL);
+        }
+        GhostCoast y = new GhostCoast();
+        y.unit(0, 1);
+        for (int i = 0; i < 87; i++) y.prisoner(3, true);
+        y.flight(0, 0, 48);
+        y.tick(1);
+        due.is("three of four stories", y.count(3), 90);
+        for (int s = 0; s < 3; s++) due.is("story of a unit", y.report(87 + s, 1), s);
+    }
+
+    /** Coin that is just enough is paid, one less isn't; only what stands pays, shown or not. */
+    private static void payingToTheLast() {
+        int[] numbers = {0, 9, 9, 509, 0, 0, 0};
+        int[] prices = {1, 2, 5, 5, 1, 0, 0};
+        for (int kind = 0; kind < 7; kind++) {
+            for (int less = 0; less <= 1; less++) {
+                GhostCoast x = new GhostCoast();
+                x.unit(0, 1);
+                x.show(kind, 0, kind == 5 ? 99 : numbers[kind]);
+                x.stand(0, true);
+                x.purse(0, Math.max(0, prices[kind] - less));
+                x.tick(24);
+                boolean isPaid = less == 0 || prices[kind] == 0;
+                due.is("kind " + kind + " stands", x.of(0, 3), isPaid ? 1 : 0);
+                due.is("kind " + kind + " costs", x.of(0, 8), isPaid ? prices[kind] : 0);
+                due.is("coin", x.count(9), isPaid ? 0 : prices[kind] - 1);
+                due.is("coin in the book", x.book(0, 2), isPaid ? 0 : prices[kind] - 1);
+                due.is("standing in the book", x.book(0, 3), isPaid ? 1 : 0);
+            }
+        }
+        GhostCoast x = new GhostCoast();
+        x.show(0, 0, 0);
+        Due.shown(x, 1, 0, 0, 1);
+        x.show(2, 0, 9);
+        x.stand(2, true);
+        x.show(0, 0, 0);
+        x.stand(3, true);
+        Due.text(x, "bar show if story=0&!hands=1", 0, 80);
+        x.weather(1, 0);
+        x.purse(0, 9000);
+        x.tick(24);
+        due.is("what doesn't stand pays nothing", x.of(0, 8), 0);
+        due.is("it stands no more than before", x.of(0, 3), 0);
+        due.is("what is broken pays", x.of(1, 8), 2);
+        due.is("what has no hands pays", x.of(2, 8), 5);
+        due.is("what is barred pays", x.of(3, 8), 1);
+        due.is("coin", x.count(9), 9000 - 8);
+        due.is("standing", x.book(0, 3), 3);
     }
 
     private static void paying() {

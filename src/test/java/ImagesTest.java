@@ -5,6 +5,8 @@ public final class ImagesTest {
     public static void main(String[] args) {
         imageAndUndo();
         imageStays();
+        wholeAgain();
+        standingSince();
         everythingComesBack();
         tear();
         count();
@@ -43,6 +45,43 @@ public final class ImagesTest {
         due.is("the latest image", x.count(3), 1);
         due.is("not struck in it", x.report(0, 6), 0);
         due.is("its story", x.report(0, 1), 2);
+    }
+
+    /** What broke since the image is whole, and what was broken in it is broken. */
+    private static void wholeAgain() {
+        GhostCoast x = new GhostCoast();
+        Due.shown(x, 1, 0, 0, 2);
+        x.image();
+        x.weather(1, 0);
+        x.tick(1);
+        due.is("broken", x.of(0, 4), 1);
+        x.undo();
+        due.is("whole", x.of(0, 4), 0);
+        x.tick(1);
+        due.is("no wind", x.of(0, 4), 0);
+        x.weather(9, 0);
+        x.tick(1);
+        x.image();
+        due.is("mended", x.mend(0), 1);
+        x.undo();
+        due.is("broken as it was", x.of(0, 4), 1);
+        due.is("with the hand that was lost", x.of(0, 5), 2);
+    }
+
+    /** A paper stands since the hour that the image tells. */
+    private static void standingSince() {
+        GhostCoast x = new GhostCoast();
+        x.show(5, 0, 103);
+        x.stand(0, true);
+        x.tick(2);
+        x.image();
+        x.stand(0, false);
+        x.stand(0, true);
+        x.undo();
+        x.tick(1);
+        due.is("not yet", x.count(3), 0);
+        x.tick(1);
+        due.is("3 hours behind", x.count(3), 1);
     }
 
     /** A coast with something of everything; hour 30. */

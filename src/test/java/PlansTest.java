@@ -12,12 +12,15 @@ public final class PlansTest {
         plan();
         planWithin();
         fewestThoughGreaterAsBits();
+        leastMore();
         planFindings();
         judge();
         judgeTakesTheOldestAway();
         last();
         lastFades();
         lastOfPartsOfADay();
+        lastOfJustTwelve();
+        lastUntilTheEdge();
         lastOfLateOnes();
         due.end();
     }
@@ -246,6 +249,23 @@ public final class PlansTest {
         due.is("the fewer", x.plan(1, 31, 7, 5), 24);
     }
 
+    /** A quiet one drives the only report that weighs out: 1 of 4 is more than 1 of 5. */
+    private static void leastMore() {
+        GhostCoast x = new GhostCoast();
+        x.unit(0, 1);
+        x.show(6, 300, 0);
+        Due.shown(x, 3, 0, 23, 2);
+        for (int i = 0; i < 2; i++) Due.shown(x, 4, 200, 9, 0);
+        x.listen(0);
+        x.tick(1);
+        for (int i = 0; i < 11; i++) x.tell(2 + i % 2);
+        due.is("twelve", x.counted(1), 12);
+        due.is("1 of 5", x.likely(1, true), 5);
+        due.is("1 of 4", x.judge(1, 1, true), 4);
+        due.is("so the quiet one", x.plan(1, 1, 0, 0), 1);
+        due.is("for story 0 it is none", x.plan(0, 1, 0, 0), 0);
+    }
+
     private static void planFindings() {
         GhostCoast x = new GhostCoast();
         for (int i = 0; i < 10; i++) x.show(0, 100, 0);
@@ -358,6 +378,36 @@ public final class PlansTest {
         due.is("nine shows", x.last(2, 511), 2);
         x.fade(1);
         due.is("five shows of two days are ten reports", x.last(2, 1 + 2 + 4 + 128 + 256), Due.NONE);
+    }
+
+    /** Seven a day: on day 2 the latest twelve are these and 2 to 6 of day 1, not 1 of it. */
+    private static void lastOfJustTwelve() {
+        GhostCoast x = new GhostCoast();
+        x.unit(0, 1);
+        Due.shown(x, 6, 0, 0, 0);
+        Due.shown(x, 4, 100, 400, 0);
+        Due.shown(x, 4, 200, 300, 0);
+        for (int i = 3; i < 7; i++) Due.shown(x, 6, 0, 0, 0);
+        // Day 1: 5 and 4; day 2: 5 and 16, with the thirteenth it would be 25.
+        due.is("the thirteenth latest doesn't count", x.last(1, 127), 2);
+        // Day 2 of six: 25 and 16; day 3: 25 and 16, as day 1 is out.
+        due.is("the twelfth does", x.last(1, 126), Due.NONE);
+    }
+
+    /** With FADE 2 days 1 to 3 count on day 3: of day 1 what has room in the twelve. */
+    private static void lastUntilTheEdge() {
+        GhostCoast x = new GhostCoast();
+        x.fade(2);
+        x.unit(0, 1);
+        Due.shown(x, 4, 100, 400, 0);
+        Due.shown(x, 6, 0, 0, 0);
+        Due.shown(x, 6, 0, 0, 0);
+        Due.shown(x, 4, 200, 300, 0);
+        Due.shown(x, 6, 0, 0, 0);
+        // Days 1 and 2: 5 and 4, 25 and 16; day 3: 25 and 64, by show 3 of day 1.
+        due.is("48 hours ahead it counts", x.last(1, 31), 3);
+        x.fade(1);
+        due.is("49 it doesn't", x.last(1, 31), Due.NONE);
     }
 
     /** What is known late counts from then on, and the latest twelve of told days drive it out. */

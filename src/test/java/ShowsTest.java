@@ -7,6 +7,7 @@ public final class ShowsTest {
         numbersOfKinds();
         as();
         of();
+        pricesOfNets();
         shown();
         stand();
         hands();
@@ -89,6 +90,17 @@ public final class ShowsTest {
         due.is("of what 14 of a voice", x.of(4, 14), Due.BEYOND);
     }
 
+    private static void pricesOfNets() {
+        int[] numbers = {0, 707, 2323, 1, 1020, 22, 123, 23};
+        int[] prices = {1, 1, 1, 2, 11, 23, 23, 24};
+        GhostCoast x = new GhostCoast();
+        for (int i = 0; i < numbers.length; i++) {
+            due.is("net", x.show(3, 0, numbers[i]), i);
+            due.is("price of a net of " + numbers[i], x.of(i, 7), prices[i]);
+            due.is("need of a net", x.of(i, 6), 2);
+        }
+    }
+
     private static void shown() {
         GhostCoast x = new GhostCoast();
         x.purse(900, 9000);
@@ -145,6 +157,15 @@ public final class ShowsTest {
         due.is("not found yet, stood anew", x.count(3), 0);
         x.tick(1);
         due.is("found", x.count(3), 1);
+        GhostCoast y = new GhostCoast();
+        y.show(5, 0, 199);
+        y.tick(3);
+        y.stand(0, true);
+        y.tick(99);
+        due.is("98 hours behind", y.count(3), 0);
+        y.tick(1);
+        due.is("99 hours behind", y.count(3), 1);
+        due.is("got then", y.report(0, 3), 102);
     }
 
     private static void hands() {
@@ -183,6 +204,9 @@ public final class ShowsTest {
         due.is("broken again", x.of(0, 4), 1);
         due.is("mend with no hands", x.mend(0), Due.SIZE);
         due.is("still broken", x.of(0, 4), 1);
+        due.is("it stands no more", x.stand(0, false), 1);
+        due.is("it stands anew", x.stand(0, true), 1);
+        due.is("broken all the same", x.of(0, 4), 1);
         due.is("mend -1", x.mend(-1), Due.BEYOND);
         due.is("mend 1", x.mend(1), Due.BEYOND);
     }

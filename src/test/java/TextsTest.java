@@ -8,6 +8,10 @@ public final class TextsTest {
         goodTexts();
         faults();
         limits();
+        longestText();
+        lastTextAndClause();
+        whatAFaultLeaves();
+        whatWasWiped();
         wipe();
         drop();
         kindsAbove();
@@ -82,7 +86,12 @@ public final class TextsTest {
             "must show if hour=1&^", "must show if hour=1|^&", "must show if hour=1^=", "must show if hour^;",
             "must show;^", "must show;^;", "must show;^ may net", "may show if story=1;must net ^", "bar^d show", "ba^",
             "may ^", "may qui^t", "may ^\u00e9", "ma^x show", "must show^s", "may show if day<1234^5",
-            "may show if day^!=1", "may show if day^5", "may show if ^5=1", "may show if hour^12;"};
+            "may show if day^!=1", "may show if day^5", "may show if ^5=1", "may show if hour^12;",
+            "may show if ^=1", "may show if da^=1", "may show if !^=1", "may show if ha^=1", "may ^;", "^;may show",
+            "may^|", "may show ^|", "may show^&", "may show if story^", "may show if hands>9999^0", "may show if ^|day=1",
+            "may show if day=1|^", "may show if !day=1&!^", "bar paper;may camp;mu^y", "may show;may show;may^",
+            "may show if cell=^;", "may show if day=1;^ ", "may show^\0", "^\0", "may show if day=1^\u00b1",
+            "may show if day=^/", "may show if day=^:", "may show if day=1^/", "may show if day=1^:"};
         for (String told : bad) {
             int at = told.indexOf('^');
             String text = told.substring(0, at) + told.substring(at + 1);
@@ -110,6 +119,78 @@ public final class TextsTest {
         Due.feed(x, repeat("bar net;", 15));
         due.is("120 bytes", x.count(12), 120);
         due.is("fault of 120 bytes", x.text(0, 0), -1 - 47);
+    }
+
+    /** As long as THE TAPE, 120 bytes: a text, one with a fault at its last byte, one that ends too early. */
+    private static void longestText() {
+        String most = "bar camp if day=1111&day=1111&day=1111&day=1111";
+        String start = most + ";" + most + ";bar voice if !hands>";
+        GhostCoast x = new GhostCoast();
+        Due.feed(x, start + "1234");
+        due.is("120 bytes", x.count(12), 120);
+        due.is("no room for one more", x.feed('5', 1), Due.FULL);
+        due.is("a text", x.text(0, 0), 0);
+        due.is("a fault at the last byte", Due.text(x, start + "123x", 0, 0), -1 - 119);
+        due.is("it ends too early", Due.text(x, start + "123&", 0, 0), -1 - 120);
+        due.is("a text of one byte less", Due.text(x, start + "123", 0, 0), 1);
+        due.is("119 bytes that end too early", Due.text(x, start + "12|", 0, 0), -1 - 119);
+    }
+
+    /** The sixth clause of the eighth text, with tests in each. */
+    private static void lastTextAndClause() {
+        GhostCoast x = new GhostCoast();
+        for (int i = 0; i < 8; i++) {
+            StringBuilder six = new StringBuilder();
+            for (int c = 0; c < 6; c++) {
+                if (c > 0) six.append(';');
+                six.append(c == 5 ? "bar" : "may").append(" net if hour=").append(c);
+            }
+            due.is("text of six", Due.text(x, six.toString(), 0, i), i);
+        }
+        x.show(3, 0, 0);
+        for (int hour = 0; hour < 6; hour++) {
+            due.is("its clause at " + hour, x.why(0), 70 + hour);
+            due.is("it may", x.may(0), hour == 5 ? 0 : 1);
+            x.tick(1);
+        }
+        due.is("none is about it", x.why(0), Due.NONE);
+        x.tick(21);
+        due.is("on day 1 text 7 again", x.why(0), 73);
+        x.drop(7);
+        due.is("then text 6", x.why(0), 63);
+        for (int text = 1; text < 7; text++) x.drop(text);
+        due.is("text 0 is of day 0", x.why(0), Due.NONE);
+    }
+
+    /** What was read up to a fault is in no force, and nothing of it is in the next text. */
+    private static void whatAFaultLeaves() {
+        GhostCoast x = new GhostCoast();
+        x.show(0, 0, 0);
+        due.is("a clause and a fault", Due.text(x, "bar show;x", 0, 80), -10);
+        due.is("it bars nothing", x.may(0), 1);
+        due.is("no clause", x.why(0), Due.NONE);
+        due.is("tests and a fault", Due.text(x, "bar show if day=1|day=2;must show if !day=0&hour=3x", 0, 80), -51);
+        due.is("a text without tests", Due.text(x, "bar show", 0, 80), 0);
+        due.is("it bars", x.may(0), 0);
+        due.is("two clauses and a fault", Due.text(x, "may show;may show;", 0, 80), -19);
+        due.is("a text of one clause", Due.text(x, "bar net", 0, 80), 1);
+        due.is("the second isn't there", x.why(0), 0);
+        GhostCoast y = new GhostCoast();
+        y.show(0, 0, 0);
+        for (int i = 0; i < 8; i++) Due.text(y, "must show", 0, 80);
+        due.is("eight", y.why(0), 70);
+    }
+
+    /** Of a text that was wiped nothing is read behind a shorter one. */
+    private static void whatWasWiped() {
+        String words = "bar quiet if !hands>34";
+        GhostCoast x = new GhostCoast();
+        for (int n = 0; n < words.length() - 1; n++) {
+            Due.feed(x, words);
+            x.wipe();
+            boolean isText = n == "bar quiet".length();
+            due.is("'" + words.substring(0, n) + "'", Due.text(x, words.substring(0, n), 0, 0), isText ? 0 : -1 - n);
+        }
     }
 
     private static void wipe() {
