@@ -8,6 +8,7 @@ public final class CoastTest {
         cell();
         road();
         unit();
+        lastUnitAndRoad();
         moveAndWhere();
         longestAndShortestRoad();
         quietHolds();
@@ -97,6 +98,21 @@ public final class CoastTest {
         due.is("unit 12", x.unit(3, 5), Due.FULL);
         due.is("unit wrong and full", x.unit(3, 0), Due.BEYOND);
         due.is("units", x.count(1), 12);
+    }
+
+    private static void lastUnitAndRoad() {
+        GhostCoast x = new GhostCoast();
+        for (int i = 0; i < 12; i++) x.unit(i, 70 + i);
+        for (int i = 0; i < 40; i++) x.road(i == 39 ? 95 : 50 + i % 40, i == 39 ? 11 : 45, 1 + i % 30);
+        due.is("still of the last", x.still(11, 39), 0);
+        due.is("move of the last", x.move(11, 39), 10);
+        due.is("its road", x.where(11, 2), 39);
+        due.is("its strength", x.where(11, 1), 81);
+        x.tick(10);
+        due.is("where it is", x.where(11, 0), 95);
+        due.is("where unit 12 is", x.where(12, 0), Due.BEYOND);
+        due.is("unit 12 on a road", x.move(12, 39), Due.BEYOND);
+        due.is("on road 40", x.move(11, 40), Due.BEYOND);
     }
 
     private static void moveAndWhere() {

@@ -11,6 +11,7 @@ public final class EyesTest {
         film();
         filmOfAll();
         filmWithoutRoom();
+        thirtyOfEach();
         due.end();
     }
 
@@ -146,6 +147,23 @@ public final class EyesTest {
         for (int i = 0; i < 20; i++) x.write(3, i, i % 2 + 1);
         due.is("film of twenty", x.film(3, 0), 20);
         for (int i = 0; i < 20; i++) report(due, x, i, 5, i % 4, 1 - i % 2, 0, 0, i, 0, 2);
+    }
+
+    /** As many flights and listeners as there can be, all of one hour: each makes its report. */
+    private static void thirtyOfEach() {
+        GhostCoast x = new GhostCoast();
+        Due.shown(x, 0, 195, 0, 0);
+        Due.shown(x, 3, 295, 505, 2);
+        x.unit(95, 1);
+        x.story(3, 95);
+        for (int i = 0; i < 30; i++) due.is("flight", x.flight(5, 959, i + 19), i);
+        for (int i = 0; i < 30; i++) due.is("listen", x.listen(5), i + 1);
+        x.tick(6);
+        due.is("90", x.count(3), 90);
+        for (int i : new int[] {0, 1, 14, 28, 29}) {
+            report(due, x, 2 * i, 0, 1, 1, 5, 24 + i, 0, 0, 2);
+            report(due, x, 60 + i, 1, 2, 1, 5, 5, 1, 0, 1);
+        }
     }
 
     private static void filmWithoutRoom() {

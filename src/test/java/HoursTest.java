@@ -13,6 +13,9 @@ public final class HoursTest {
         papersAreFound();
         unitsMarch();
         byDaysAndTimes();
+        eachShowIsAsked();
+        likeliestOfTheBook();
+        eachUnitMarches();
         noRoom();
         noRoomForAny();
         paying();
@@ -221,6 +224,75 @@ public final class HoursTest {
         x.tick(1);
         due.is("seen where it came to", x.count(3), 1);
         due.is("its story", x.report(0, 1), 1);
+    }
+
+    /** Twenty shows, of which every third one doesn't stand: shows, nets and papers in turns. */
+    private static void eachShowIsAsked() {
+        for (int turn = 0; turn < 3; turn++) {
+            GhostCoast x = new GhostCoast();
+            x.purse(900, 0);
+            int[] kinds = {0, 3, 5};
+            int[] sources = {0, 1, 3};
+            for (int i = 0; i < 20; i++) {
+                x.show(kinds[(i + turn) % 3], 101, 0);
+                x.hands(i, 2);
+                if (i % 7 != 0) x.stand(i, true);
+            }
+            x.flight(0, 19, 0);
+            x.listen(0);
+            x.tick(1);
+            int report = 0;
+            for (int part = 0; part < 3; part++) {
+                for (int i = 0; i < 20; i++) {
+                    if ((i + turn) % 3 != part || i % 7 == 0) continue;
+                    due.is("source of " + report, x.report(report, 0), sources[part]);
+                    due.is("show of " + report, x.report(report, 5), i);
+                    report++;
+                }
+            }
+            due.is("reports", x.count(3), report);
+        }
+    }
+
+    /** What counts in the last hour of a day, not in the next one. */
+    private static void likeliestOfTheBook() {
+        GhostCoast x = new GhostCoast();
+        Due.shown(x, 0, 101, 0, 0);
+        x.flight(22, 10, 1);
+        x.flight(23, 10, 1);
+        x.tick(23);
+        x.prisoner(2, true);
+        x.tick(1);
+        due.is("known", x.book(0, 4), 2);
+        due.is("4 against 3, not against 9", x.book(0, 5), 2);
+        due.is("in the next hour", x.likeliest(24), 1);
+        GhostCoast y = new GhostCoast();
+        y.fade(1);
+        y.tick(23);
+        y.prisoner(3, true);
+        y.tick(25);
+        due.is("24 hours behind it counts", y.book(1, 5), 3);
+        due.is("in the next hour it doesn't", y.likeliest(48), 0);
+    }
+
+    /** All twelve, each on a road of its own length, but for every third one. */
+    private static void eachUnitMarches() {
+        GhostCoast x = new GhostCoast();
+        for (int unit = 0; unit < 12; unit++) {
+            x.unit(unit, 1);
+            x.road(unit, 40 + unit, unit + 1);
+            if (unit % 3 != 0) due.is("move", x.move(unit, unit), unit + 1);
+        }
+        for (int hour = 1; hour <= 12; hour++) {
+            x.tick(1);
+            for (int unit = 0; unit < 12; unit++) {
+                boolean isThere = unit % 3 != 0 && hour > unit;
+                boolean isGoing = unit % 3 != 0 && !isThere;
+                due.is("cell of " + unit, x.where(unit, 0), isThere ? 40 + unit : unit);
+                due.is("road of " + unit, x.where(unit, 2), isGoing ? unit : -1);
+                due.is("to go of " + unit, x.where(unit, 3), isGoing ? unit + 1 - hour : 0);
+            }
+        }
     }
 
     /** What is closed is told by its own DAY and TIME; what is closed with its last hour is in its book. */

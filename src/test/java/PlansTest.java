@@ -4,15 +4,20 @@ public final class PlansTest {
 
     public static void main(String[] args) {
         agreeByKinds();
+        agreeNotAtAll();
         agreeInOrder();
         slip();
         slipIsOfCredit4();
         slipTakesTheOldestAway();
         carry();
+        carryByAll();
         plan();
         planWithin();
         fewestThoughGreaterAsBits();
+        needsAndPricesOfAll();
         leastMore();
+        planInExactFractions();
+        planNow();
         planFindings();
         judge();
         judgeTakesTheOldestAway();
@@ -22,6 +27,7 @@ public final class PlansTest {
         lastOfJustTwelve();
         lastUntilTheEdge();
         lastOfLateOnes();
+        lastAtItsEdges();
         due.end();
     }
 
@@ -73,6 +79,35 @@ public final class PlansTest {
         due.is("they meet at one time alone", x.count(11), 2);
         pair(x, 0, 0, 1, 1);
         pair(x, 1, 1, 2, 1);
+    }
+
+    /** Of unlike kinds no eye could see both, though they are in a cell, and whichever is the lesser. */
+    private static void agreeNotAtAll() {
+        int[] numbers = {0, 0, 0, 23, 400, 499, 0};
+        int[] hands = {0, 1, 4, 2, 0, 0, 0};
+        for (int kind = 0; kind < 7; kind++) {
+            for (int other = 0; other < 7; other++) {
+                GhostCoast x = new GhostCoast();
+                x.unit(0, 1);
+                Due.shown(x, kind, 105, numbers[kind], hands[kind]);
+                Due.shown(x, other, 205, numbers[other], hands[other]);
+                int eye = kind <= 2 && other <= 2 ? 0 : kind != other ? -1 : kind == 3 ? 1 : kind == 4 ? 2 : -1;
+                due.is("pairs of " + kind + " and " + other, x.count(11), eye < 0 ? 0 : 1);
+                if (eye < 0) due.is("pair 0", x.agree(0, 2), Due.BEYOND);
+                else pair(x, 0, 0, 1, eye);
+                Due.shown(x, other, 105, numbers[other], hands[other]);
+                int like = kind == other || kind <= 2 && other <= 2 ? 1 : 0;
+                due.is("of like stories agree", x.count(11), eye >= 0 ? 2 : other == 3 || other == 4 || other <= 2 ? 1 : 0);
+                if (like == 0) due.is("the pair of the others", x.agree(0, 0), other <= 4 ? 1 : Due.BEYOND);
+            }
+        }
+        GhostCoast x = new GhostCoast();
+        Due.shown(x, 0, 105, 0, 0);
+        Due.shown(x, 0, 206, 0, 0);
+        Due.shown(x, 3, 105, 1112, 2);
+        Due.shown(x, 3, 205, 1313, 2);
+        Due.shown(x, 3, 305, 910, 2);
+        due.is("in other cells, at other times", x.count(11), 0);
     }
 
     private static void agreeInOrder() {
@@ -146,6 +181,22 @@ public final class PlansTest {
         due.is("carry without what isn't shown", x.carry(0), 2);
         due.is("carry -1", x.carry(-1), Due.BEYOND);
         due.is("carry 5", x.carry(5), Due.BEYOND);
+    }
+
+    /** Twenty, of which the first, the last and those between them are shown in turn. */
+    private static void carryByAll() {
+        GhostCoast x = new GhostCoast();
+        for (int i = 0; i < 20; i++) Due.shown(x, 0, 200 + i, 0, 0);
+        due.is("all but the first", x.carry(0), 1048574);
+        due.is("all but the last", x.carry(19), 524287);
+        due.is("all but one", x.carry(7), 1048575 - 128);
+        for (int i = 1; i < 19; i++) x.stand(i, false);
+        due.is("the last", x.carry(0), 524288);
+        due.is("the first", x.carry(19), 1);
+        due.is("both", x.carry(7), 524289);
+        x.stand(19, false);
+        due.is("none: it is no other", x.carry(0), 0);
+        due.is("of all", x.carry(19), 1);
     }
 
     private static void plan() {
@@ -247,6 +298,72 @@ public final class PlansTest {
         due.is("above by 0, 1 and 3", x.judge(1, 11, false), 50000);
         due.is("below by 0, 1 and 3", x.judge(1, 11, true), 50003);
         due.is("the fewer", x.plan(1, 31, 7, 5), 24);
+    }
+
+    /**
+     * With none, of stories 0 to 3: 9, 25600, 64, 64. Show 3 drives a voice's report out, show 4 then a prisoner's
+     * against story 0: 9, 7680, 16, 16. That is more by one part in 80000.
+     */
+    private static void planInExactFractions() {
+        GhostCoast x = new GhostCoast();
+        Due.shown(x, 4, 100, 9, 0);
+        Due.shown(x, 4, 100, 409, 0);
+        Due.shown(x, 4, 0, 209, 0);
+        x.show(4, 100, 200);
+        x.show(5, 100, 100);
+        // A voice, or -1 a prisoner for story 1, -2 one against story 0.
+        for (int teller : new int[] {1, -2, -1, 0, 2, 2, -2, -1, 1, 0, 0, -2}) {
+            if (teller >= 0) x.tell(teller);
+            else x.prisoner(teller + 2, teller == -1);
+        }
+        due.is("none above", x.judge(1, 0, false), 25600);
+        due.is("none below", x.judge(1, 0, true), 25737);
+        due.is("both above", x.judge(1, 24, false), 7680);
+        due.is("both below", x.judge(1, 24, true), 7721);
+        due.is("both", x.plan(1, 24, 0, 1), 24);
+        due.is("coin for one alone: none is better", x.plan(1, 24, 0, 0), 0);
+    }
+
+    /** What is known from the next hour on, and what fades with it, is no matter now. */
+    private static void planNow() {
+        for (int late = 1; late <= 2; late++) {
+            GhostCoast x = new GhostCoast();
+            x.unit(0, 1);
+            x.show(6, 300, 0);
+            Due.shown(x, 4, 200, 9, 0);
+            Due.shown(x, 4, 200, 9, 0);
+            Due.shown(x, 0, 105, 0, 0);
+            x.fade(1);
+            x.prisoner(0, true);
+            for (int i = 0; i < 10; i++) x.tell(1 + i % 2);
+            x.flight(23, 50, late);
+            x.tick(24);
+            // Eleven are known, and one that is, late by 1, or will be, late by 2.
+            due.is("counted", x.counted(24), late == 1 ? 12 : 11);
+            due.is("above", x.judge(3, 1, false), 1);
+            due.is("below", x.judge(3, 1, true), late == 1 ? 6 : 7);
+            due.is("a quiet one drives the prisoner out, or has room", x.plan(3, 1, 0, 0), late == 1 ? 1 : 0);
+            x.tick(1);
+            due.is("all but one have faded", x.counted(25), 1);
+            due.is("no quiet one is wanted", x.plan(3, 1, 0, 0), 0);
+        }
+    }
+
+    /** Of nine of 20 shows, the first and the last among them: needs 9, prices 18. */
+    private static void needsAndPricesOfAll() {
+        GhostCoast x = new GhostCoast();
+        for (int i = 0; i < 20; i++) x.show(1, 100, 0);
+        int set = 1 + 2 + 8 + 64 + 1024 + 4096 + 32768 + 262144 + 524288;
+        due.is("all", x.plan(1, set, 9, 18), set);
+        due.is("a hand less: the last is left out", x.plan(1, set, 8, 18), set - 524288);
+        due.is("coin for one less", x.plan(1, set, 9, 17), set - 524288);
+        due.is("hands for one", x.plan(1, set, 1, 18), 1);
+        due.is("coin for one", x.plan(1, set, 9, 2), 1);
+        due.is("hands for none", x.plan(1, set, 0, 18), 0);
+        due.is("coin for none", x.plan(1, set, 9, 1), 0);
+        due.is("the last alone", x.plan(1, 524288, 1, 2), 524288);
+        due.is("the last alone, no hands", x.plan(1, 524288, 0, 2), 0);
+        due.is("the last alone, no coin", x.plan(1, 524288, 1, 1), 0);
     }
 
     /** A quiet one drives the only report that weighs out: 1 of 4 is more than 1 of 5. */
@@ -408,6 +525,26 @@ public final class PlansTest {
         due.is("48 hours ahead it counts", x.last(1, 31), 3);
         x.fade(1);
         due.is("49 it doesn't", x.last(1, 31), Due.NONE);
+    }
+
+    /** On day d as at the open hour and 24 d, neither an hour ahead nor behind. */
+    private static void lastAtItsEdges() {
+        for (int ahead = 0; ahead <= 1; ahead++) {
+            GhostCoast x = new GhostCoast();
+            x.tick(5);
+            x.prisoner(1, true);
+            if (ahead == 1) x.tick(1);
+            due.is("got " + ahead + " ahead", x.last(1, 0), 10 - ahead);
+        }
+        for (int late = 24; late <= 26; late++) {
+            GhostCoast x = new GhostCoast();
+            Due.shown(x, 0, 205, 0, 0);
+            x.flight(0, 50, late);
+            x.tick(1);
+            x.stand(0, false);
+            // The open hour is 1: 25 hours late is known at 25, day 1.
+            due.is("late by " + late, x.last(0, 0), late <= 25 ? 1 : 2);
+        }
     }
 
     /** What is known late counts from then on, and the latest twelve of told days drive it out. */

@@ -7,6 +7,7 @@ public final class SheetsTest {
         write();
         copy();
         copyFindings();
+        emptyAndFull();
         due.end();
     }
 
@@ -82,6 +83,40 @@ public final class SheetsTest {
         due.is("copy nothing", x.copy(0, 0, 1, 0, 0), 0);
         due.is("copy nothing at the ends", x.copy(0, 5, 1, 3, 0), 0);
         numbers(x, 1, 0, 13, 999);
+    }
+
+    /** Sheets of no numbers, which are not missing, and of twenty. */
+    private static void emptyAndFull() {
+        for (int bits : new int[] {8, 32}) {
+            GhostCoast x = new GhostCoast();
+            due.is("empty", x.sheet(0, bits, 0), 0);
+            due.is("empty", x.sheet(3, bits, 0), 0);
+            due.is("read of an empty one", x.read(0, 0), Due.BEYOND);
+            due.is("write to an empty one", x.write(0, 0, 0), Due.BEYOND);
+            due.is("copy of an empty one", x.copy(0, 0, 3, 0, 0), 0);
+            due.is("copy of an empty one to itself", x.copy(0, 0, 0, 0, 0), 0);
+            due.is("copy one number", x.copy(0, 0, 3, 0, 1), Due.BEYOND);
+            due.is("copy from place 1", x.copy(0, 1, 3, 0, 0), Due.BEYOND);
+            due.is("film of an empty one with no shows", x.film(0, 0), 0);
+            x.tick(24);
+            due.is("check of an empty one", x.check(0, 0), Due.SIZE);
+            due.is("full", x.sheet(1, bits, 20), 20);
+            due.is("full", x.sheet(2, bits, 20), 20);
+            for (int i = 0; i < 20; i++) due.is("write", x.write(1, i, i - 10), 1);
+            due.is("copy all", x.copy(1, 0, 2, 0, 20), 20);
+            for (int i = 0; i < 20; i++) due.is("number " + i, x.read(2, i), i - 10);
+            due.is("copy from place 20", x.copy(1, 20, 2, 20, 0), 0);
+            due.is("copy from place 21", x.copy(1, 21, 2, 20, 0), Due.BEYOND);
+            due.is("copy to place 21", x.copy(1, 20, 2, 21, 0), Due.BEYOND);
+            due.is("copy 21", x.copy(1, 0, 2, 0, 21), Due.BEYOND);
+            due.is("to an empty one none", x.copy(1, 20, 3, 0, 0), 0);
+            due.is("to an empty one", x.copy(1, 19, 3, 0, 1), Due.BEYOND);
+            due.is("as they were by one", x.copy(2, 0, 2, 1, 19), 19);
+            for (int i = 0; i < 20; i++) due.is("number " + i + " then", x.read(2, i), Math.max(0, i - 1) - 10);
+            due.is("back by one", x.copy(2, 1, 2, 0, 19), 19);
+            for (int i = 0; i < 20; i++) due.is("number " + i + " at last", x.read(2, i), Math.min(18, i) - 10);
+            due.is("a film of more than there are shows", x.film(1, 0), Due.BEYOND);
+        }
     }
 
     private static void copyFindings() {
